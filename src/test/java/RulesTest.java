@@ -1,0 +1,1 @@
+public final class RulesTest { public static void main(String[] a) { } }
