@@ -31,15 +31,20 @@ public final class FlashPages {
     private static final int TOP_THRESHOLD = 100;
     private static final int MOST_TOLD = 40;
     private static final int MOST_UNDONE = 20;
+    private static final int MOST_HELD = MOST_TOLD + MOST_UNDONE;
+    private static final int ENTRY_WIDTH = 3;
     private static final int MOST_MET = 16;
     private static final int FARTHEST_SHIFT = 9;
+    private static final int SHIFT_COUNT = 2 * FARTHEST_SHIFT + 1;
+    // In an image, for how many DAYS and the WORD.
+    private static final int ROW_HEAD = 9;
     private static final int HUNDRED = 100;
     private static final int LOWER_BITS = 30;
     private static final int MOST_RESULT = 1000000;
 
-    // The OWN WORDS by their places in this text.
-    private static final String OWN_WORDS = "field poly mends short page high low mid step noise drifts"
-            + " tries day cell level bit age tried gap at if or and not all min max";
+    // The OWN WORDS; their numbers are their places in these two texts, the one behind the other.
+    private static final String STATEMENT_WORDS = "field poly mends short page high low mid step noise drifts tries";
+    private static final String TERM_WORDS = "day cell level bit age tried gap at if or and not all min max";
     private static final int OWN_COUNT = 27;
     private static final int FIELD = 0;
     private static final int POLY = 1;
@@ -69,6 +74,12 @@ public final class FlashPages {
     private static final int MIN = 25;
     private static final int MAX = 26;
 
+    // What comes next in a text: a sign's kind is its byte, those of others are below 0.
+    private static final int KIND_END = -1;
+    private static final int KIND_WORD = -2;
+    private static final int KIND_NUMBER = -3;
+    private static final int KIND_BAD = -4;
+
     // A program's steps: numbers from 0 on are put on the stack as they are, what works on it is below 0.
     private static final int DO_ADD = -1;
     private static final int DO_TAKE = -2;
@@ -96,7 +107,6 @@ public final class FlashPages {
 
     private final int[] tape = new int[MOST_BYTES];
     private final int[] refused = new int[REFUSED_KINDS];
-    private final Parser parser = new Parser();
     private final Terms terms = new Terms();
     private final Decoder decoder = new Decoder();
     private final Getter getter = new Getter(decoder, terms);
@@ -104,11 +114,11 @@ public final class FlashPages {
     private final Pages draft = new Pages();
     private final Row scratch = new Row(0);
     private final Past past = new Past();
-    private final Diary diary = new Diary();
     private final Shifts met = new Shifts();
     private final Image image = new Image();
     private Chip current = new Chip();
     private Chip spare = new Chip();
+    private final Parser parser = new Parser(tape, spare);
     private boolean loaded;
     private int tapeSize;
     private int drawn = 1;
@@ -141,7 +151,7 @@ public final class FlashPages {
 
     public int chip() {
         int size = takeTape();
-        if (!parser.reads(tape, size, spare)) {
+        if (!parser.reads(size, spare)) {
             return refuse(REFUSED_CHIP);
         }
         Chip old = current;
@@ -149,7 +159,6 @@ public final class FlashPages {
         spare = old;
         loaded = true;
         pages.clear();
-        diary.clear();
         past.clear();
         met.clear();
         decoder.forget();
@@ -182,7 +191,7 @@ public final class FlashPages {
             case 4: return current.pages;
             case 5: return pages.writtenCount();
             case 6: return pages.day;
-            case 7: return diary.told();
+            case 7: return past.told();
             case 8: return met.rows;
             default: return past.count;
         }
@@ -349,9 +358,11 @@ public final class FlashPages {
         if (!isWritten(page) || what < 0 || what > 1) {
             return NONE;
         }
+        Row row = pages.rows[page];
+        Code code = current.code;
         int found = NONE;
         for (int at = 1; at < TOP_THRESHOLD; at++) {
-            if (isTrueBy(page, at)) {
+            if (row.isTrueRead(row.readBy(at, code.cells), code.mends)) {
                 if (what == 0) {
                     return at;
                 }
@@ -441,9 +452,9 @@ public final class FlashPages {
             refuse(REFUSED_PAGE);
             return false;
         }
-        past.keep(pages, diary.total);
+        past.save(pages);
         pages.rows[page].fill(current, current.code.encode(dataOf(high, low)));
-        diary.add(pages.day, page, 0);
+        past.add(pages.day, page, 0);
         return true;
     }
 
@@ -452,7 +463,7 @@ public final class FlashPages {
             refuse(REFUSED_PAGE);
             return false;
         }
-        past.keep(pages, diary.total);
+        past.save(pages);
         pages.rows[page].clear();
         return true;
     }
@@ -462,7 +473,7 @@ public final class FlashPages {
             refuse(REFUSED_PAGE);
             return false;
         }
-        past.keep(pages, diary.total);
+        past.save(pages);
         pages.rows[page].turn(cell);
         return true;
     }
@@ -476,9 +487,9 @@ public final class FlashPages {
         if (getter.cause != 0) {
             return refuse(REFUSED_PAGE);
         }
-        past.keep(pages, diary.total);
+        past.save(pages);
         row.fill(current, getter.result);
-        diary.add(pages.day, page, getter.mended);
+        past.add(pages.day, page, getter.mended);
         return getter.mended;
     }
 
@@ -486,7 +497,7 @@ public final class FlashPages {
         if (!loaded || n < 1 || !daysFit(n)) {
             return refuse(REFUSED_DAYS);
         }
-        past.keep(pages, diary.total);
+        past.save(pages);
         for (int i = 0; i < n; i++) {
             passDay();
         }
@@ -504,7 +515,7 @@ public final class FlashPages {
         if (!loaded || n < 1 || !daysFit(n)) {
             return refuse(REFUSED_DAYS);
         }
-        past.keep(pages, diary.total);
+        past.save(pages);
         int count = 0;
         for (int i = 0; i < n; i++) {
             passDay();
@@ -518,7 +529,7 @@ public final class FlashPages {
             refuse(REFUSED_UNDO);
             return false;
         }
-        diary.total = past.restore(pages);
+        past.restore(pages);
         return true;
     }
 
@@ -532,10 +543,10 @@ public final class FlashPages {
     }
 
     public int kept(int k, int what) {
-        if (k < 0 || k >= diary.told() || what < 0 || what > 2) {
+        if (k < 0 || k >= past.told() || what < 0 || what > 2) {
             return NONE;
         }
-        return diary.entry(k, what);
+        return past.entry(k, what);
     }
 
     // ---- images, refusals
@@ -556,7 +567,6 @@ public final class FlashPages {
             return false;
         }
         pages.copy(draft);
-        diary.clear();
         past.clear();
         return true;
     }
@@ -612,13 +622,6 @@ public final class FlashPages {
 
     private boolean daysFit(int n) {
         return n <= MOST_AHEAD && pages.day + n <= LAST_DAY;
-    }
-
-    /** No more than t cells are ever turned back, and t wrong ones always are: the distance alone tells. */
-    private boolean isTrueBy(int page, int at) {
-        Row row = pages.rows[page];
-        long bits = row.readBy(at, current.code.cells);
-        return Long.bitCount(bits ^ row.word) <= current.code.mends;
     }
 
     private void decode(int page, int at) {
@@ -889,8 +892,12 @@ public final class FlashPages {
             isFresh = true;
             read = cellBits;
             result = cellBits;
-            for (int j = 1; j <= 2 * code.mends; j++) {
+            for (int j = 1; j < 2 * code.mends; j += 2) {
                 syndromes[j] = code.valueAt(cellBits, j);
+            }
+            // Over two elements, what a polynomial gives at a square is the square of what it gives.
+            for (int j = 1; j <= code.mends; j++) {
+                syndromes[2 * j] = code.product(syndromes[j], syndromes[j]);
             }
             findFactors(code);
             cause = length > code.mends ? 1 : findRoots(code);
@@ -1025,9 +1032,9 @@ public final class FlashPages {
             return false;
         }
 
-        void add(int step) {
+        void addStep(int which) {
             if (programSize < program.length) {
-                program[programSize] = step;
+                program[programSize] = which;
                 programSize++;
             }
         }
@@ -1035,18 +1042,13 @@ public final class FlashPages {
 
     /** Reads a text into a chip, up to its first FAULT. */
     private static final class Parser {
-        private static final int KIND_END = -1;
-        private static final int KIND_WORD = -2;
-        private static final int KIND_NUMBER = -3;
-        private static final int KIND_BAD = -4;
-
         final int[] ownWords = new int[OWN_COUNT];
-        int[] text = new int[0];
-        Chip chip = new Chip();
+        final int[] text;
+        Chip chip;
         int size;
         int fault;
         int place;
-        // The word, number or sign that comes next: a sign's kind is its byte.
+        // The word, number or sign that comes next.
         int kind;
         int start;
         int badPlace;
@@ -1055,29 +1057,35 @@ public final class FlashPages {
         int own;
         boolean inDrifts;
 
-        Parser() {
-            int count = 0;
+        Parser(int[] text, Chip chip) {
+            this.text = text;
+            this.chip = chip;
+            int count = listWords(STATEMENT_WORDS, 0, ownWords);
+            listWords(TERM_WORDS, count, ownWords);
+        }
+
+        /** How many words the list has then. */
+        private static int listWords(String words, int from, int[] list) {
+            int count = from;
             int name = 0;
             int letters = 0;
-            for (int i = 0; i <= OWN_WORDS.length(); i++) {
-                int sign = i < OWN_WORDS.length() ? OWN_WORDS.charAt(i) : ' ';
-                if (sign == ' ') {
-                    if (count < OWN_COUNT) {
-                        ownWords[count] = packed(name, letters);
-                    }
+            for (int i = 0; i <= words.length(); i++) {
+                int sign = i < words.length() ? words.charAt(i) : ' ';
+                if (sign != ' ') {
+                    name = name << LETTER_BITS | sign - 'a' + 1;
+                    letters++;
+                } else if (count < list.length) {
+                    list[count] = packed(name, letters);
                     count++;
                     name = 0;
                     letters = 0;
-                } else {
-                    name = name << LETTER_BITS | sign - 'a' + 1;
-                    letters++;
                 }
             }
+            return count;
         }
 
-        boolean reads(int[] tape, int tapeSize, Chip target) {
-            text = tape;
-            size = Math.min(tapeSize, tape.length);
+        boolean reads(int textSize, Chip target) {
+            size = Math.min(textSize, text.length);
             chip = target;
             chip.clear();
             fault = 0;
@@ -1353,7 +1361,7 @@ public final class FlashPages {
                 if (!readProduct(open)) {
                     return false;
                 }
-                chip.add(step);
+                chip.addStep(step);
             }
             return true;
         }
@@ -1368,14 +1376,14 @@ public final class FlashPages {
                 if (!readPart(open)) {
                     return false;
                 }
-                chip.add(step);
+                chip.addStep(step);
             }
             return true;
         }
 
         private boolean readPart(int open) {
             if (kind == KIND_NUMBER) {
-                chip.add(value);
+                chip.addStep(value);
                 look();
                 return true;
             }
@@ -1391,7 +1399,7 @@ public final class FlashPages {
             if (kind != KIND_WORD || !isValue(own)) {
                 return failHere();
             }
-            chip.add(DO_VALUE - own);
+            chip.addStep(DO_VALUE - own);
             look();
             return true;
         }
@@ -1411,7 +1419,7 @@ public final class FlashPages {
             if (!readSum(open + 1) || !readSign(')')) {
                 return false;
             }
-            chip.add(step);
+            chip.addStep(step);
             return true;
         }
 
@@ -1423,7 +1431,7 @@ public final class FlashPages {
             if (!readSum(open + 1) || !readSign(',') || !readSum(open + 1) || !readSign(')')) {
                 return false;
             }
-            chip.add(DO_IF);
+            chip.addStep(DO_IF);
             return true;
         }
 
@@ -1436,7 +1444,7 @@ public final class FlashPages {
                 if (!readBoth(open)) {
                     return false;
                 }
-                chip.add(DO_OR);
+                chip.addStep(DO_OR);
             }
             return true;
         }
@@ -1450,7 +1458,7 @@ public final class FlashPages {
                 if (!readFact(open)) {
                     return false;
                 }
-                chip.add(DO_AND);
+                chip.addStep(DO_AND);
             }
             return true;
         }
@@ -1464,14 +1472,14 @@ public final class FlashPages {
                 if (!readFact(open + 1)) {
                     return false;
                 }
-                chip.add(DO_NOT);
+                chip.addStep(DO_NOT);
                 return true;
             }
             if (kind == '[') {
                 return readOpening('[', open) && readTest(open + 1) && readSign(']');
             }
             if (isOwn(ALL)) {
-                chip.add(1);
+                chip.addStep(1);
                 look();
                 return true;
             }
@@ -1490,7 +1498,7 @@ public final class FlashPages {
             if (!readSum(open)) {
                 return false;
             }
-            chip.add(step);
+            chip.addStep(step);
             return true;
         }
     }
@@ -1650,6 +1658,11 @@ public final class FlashPages {
             }
             return bits;
         }
+
+        /** Up to t wrong cells are always mended, and no more are ever turned: how many there are tells. */
+        boolean isTrueRead(long bits, int mends) {
+            return Long.bitCount(bits ^ word) <= mends;
+        }
     }
 
     /** The DAY and all PAGES. */
@@ -1703,10 +1716,10 @@ public final class FlashPages {
                 boolean hasMore = tape[at] == 1;
                 at++;
                 if (hasMore) {
-                    if (at + Image.HEAD + chip.code.cells > size - 1 || !takesRow(rows[i], tape, at, chip)) {
+                    if (at + ROW_HEAD + chip.code.cells > size - 1 || !takesRow(rows[i], tape, at, chip)) {
                         return false;
                     }
-                    at += Image.HEAD + chip.code.cells;
+                    at += ROW_HEAD + chip.code.cells;
                 }
             }
             return at == size - 1;
@@ -1716,11 +1729,11 @@ public final class FlashPages {
             row.written = true;
             row.age = tape[from];
             row.word = 0;
-            for (int i = 1; i < Image.HEAD; i++) {
+            for (int i = 1; i < ROW_HEAD; i++) {
                 row.word = row.word << 8 | tape[from + i];
             }
             for (int cell = 0; cell < chip.code.cells; cell++) {
-                row.levels[cell] = tape[from + Image.HEAD + cell];
+                row.levels[cell] = tape[from + ROW_HEAD + cell];
                 if (row.levels[cell] > TOP_LEVEL) {
                     return false;
                 }
@@ -1752,14 +1765,24 @@ public final class FlashPages {
             for (int i = 0; i < MOST_READS && next != NONE; i++) {
                 threshold = next;
                 long bits = row.readBy(threshold, chip.code.cells);
-                decoder.decode(chip.code, bits);
+                mend(chip, row, bits);
                 reads++;
-                next = decoder.cause == 0 ? NONE : nextThreshold(chip, Long.bitCount(bits) - wanted);
+                next = cause == 0 ? NONE : nextThreshold(chip, Long.bitCount(bits) - wanted);
             }
-            cause = decoder.cause;
-            mended = cause == 0 ? decoder.length : 0;
-            result = decoder.result;
             isTrue = cause == 0 && result == row.word;
+        }
+
+        private void mend(Chip chip, Row row, long bits) {
+            if (row.isTrueRead(bits, chip.code.mends)) {
+                cause = 0;
+                mended = Long.bitCount(bits ^ row.word);
+                result = row.word;
+                return;
+            }
+            decoder.decode(chip.code, bits);
+            cause = decoder.cause;
+            mended = decoder.length;
+            result = decoder.result;
         }
 
         /** NONE where it is not READ again. */
@@ -1772,12 +1795,15 @@ public final class FlashPages {
         }
     }
 
-    /** The last ACTS, as what was so ahead of them. */
+    /** The last ACTS, as what was so ahead of them, and what was KEPT. */
     private static final class Past {
         final Pages[] before = new Pages[MOST_UNDONE];
         final int[] totals = new int[MOST_UNDONE];
+        // As many as are told, and those that undone ACTS may bring back.
+        final int[] entries = new int[ENTRY_WIDTH * MOST_HELD];
         int count;
         int last;
+        int total;
 
         Past() {
             for (int i = 0; i < MOST_UNDONE; i++) {
@@ -1788,35 +1814,24 @@ public final class FlashPages {
         void clear() {
             count = 0;
             last = 0;
+            total = 0;
         }
 
-        void keep(Pages now, int total) {
+        /** Ahead of an ACT. */
+        void save(Pages now) {
             last = last + 1 < MOST_UNDONE ? last + 1 : 0;
             before[last].copy(now);
             totals[last] = total;
             count = Math.min(count + 1, MOST_UNDONE);
         }
 
-        /** How many were KEPT then. */
-        int restore(Pages now) {
-            int at = last;
-            now.copy(before[at]);
-            last = at > 0 ? at - 1 : MOST_UNDONE - 1;
-            count--;
-            return totals[at];
-        }
-    }
-
-    /** What was KEPT: as many as are told, and those that an undone ACT may bring back. */
-    private static final class Diary {
-        private static final int WIDTH = 3;
-        private static final int HELD = MOST_TOLD + MOST_UNDONE;
-
-        final int[] entries = new int[WIDTH * HELD];
-        int total;
-
-        void clear() {
-            total = 0;
+        void restore(Pages now) {
+            if (count > 0) {
+                now.copy(before[last]);
+                total = totals[last];
+                last = last > 0 ? last - 1 : MOST_UNDONE - 1;
+                count--;
+            }
         }
 
         int told() {
@@ -1824,27 +1839,26 @@ public final class FlashPages {
         }
 
         void add(int day, int page, int mended) {
-            int at = WIDTH * (total % HELD);
+            int at = ENTRY_WIDTH * (total % MOST_HELD);
             entries[at] = day;
             entries[at + 1] = page;
             entries[at + 2] = mended;
             total++;
         }
 
+        /** The k-th of those that are told, k and what being so that there is one. */
         int entry(int k, int what) {
-            return entries[WIDTH * ((total - told() + k) % HELD) + what];
+            return entries[ENTRY_WIDTH * ((total - told() + k) % MOST_HELD) + what];
         }
     }
 
     /** Rows MET, the SHIFTS they leave, and TELLING. */
     private static final class Shifts {
-        private static final int COUNT = 2 * FARTHEST_SHIFT + 1;
-
         final int[] thresholds = new int[MOST_MET];
         final int[] seen = new int[MOST_MET];
-        final int[] fits = new int[COUNT];
+        final int[] fits = new int[SHIFT_COUNT];
         // How many levels are no less than a threshold, from -9 on.
-        final int[] atLeast = new int[TOP_THRESHOLD + COUNT];
+        final int[] atLeast = new int[TOP_THRESHOLD + SHIFT_COUNT];
         final int[] groups = new int[MOST_CELLS + 1];
         int rows;
         int fitCount;
@@ -1901,7 +1915,7 @@ public final class FlashPages {
         /** For what find() left. */
         void findTelling() {
             telling = 0;
-            leftAtMost = COUNT + 1;
+            leftAtMost = SHIFT_COUNT + 1;
             for (int at = 0; at <= TOP_THRESHOLD; at++) {
                 int most = mostLeft(at);
                 if (most < leftAtMost) {
@@ -1925,10 +1939,7 @@ public final class FlashPages {
 
     /** AN IMAGE as bytes. */
     private static final class Image {
-        /** For how many DAYS, and the WORD. */
-        private static final int HEAD = 9;
-
-        final int[] bytes = new int[3 + MOST_PAGES * (1 + HEAD + MOST_CELLS)];
+        final int[] bytes = new int[3 + MOST_PAGES * (1 + ROW_HEAD + MOST_CELLS)];
         int size;
 
         void build(Pages pages, Chip chip, int count) {
