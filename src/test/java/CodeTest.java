@@ -96,14 +96,15 @@ public final class CodeTest {
 
     private static void askWeights() {
         int[][] codes = {{3, 11, 1, 0}, {3, 11, 3, 0}, {4, 19, 1, 0}, {4, 25, 2, 6}, {5, 37, 4, 3}, {5, 37, 3, 4}, {6, 67, 5, 24}};
+        FlashPages x = new FlashPages();
         for (int[] c : codes) {
-            FlashPages x = Check.made(text(c[0], c[1], c[2], c[3]));
+            Check.chip(x, text(c[0], c[1], c[2], c[3]));
             Model model = model(c[0], c[1], c[2], c[3]);
             for (int ones = -1; ones <= 64; ones++) {
                 CHECK.due(text(c[0], c[1], c[2], c[3]) + " weight(" + ones + ")", x.weight(ones), model.weight(ones));
             }
         }
-        FlashPages x = Check.made(text(5, 37, 3, 3));
+        Check.chip(x, text(5, 37, 3, 3));
         CHECK.due("DATA of 13 bits", x.has(3), 13);
         CHECK.due("their weight(0)", x.weight(0), -1);
         // What was counted of one chip is not told of the next.
@@ -119,8 +120,9 @@ public final class CodeTest {
     private static void askPatterns() {
         int[][] codes = {{3, 11, 1, 0}, {3, 13, 1, 3}, {3, 11, 2, 0}, {4, 19, 1, 4}, {4, 25, 2, 0}, {4, 19, 2, 6}, {4, 19, 5, 0},
             {5, 37, 1, 9}, {5, 61, 2, 0}, {5, 37, 2, 11}, {5, 47, 3, 4}, {6, 67, 2, 40}, {6, 91, 1, 30}};
+        FlashPages x = new FlashPages();
         for (int[] c : codes) {
-            FlashPages x = Check.made(text(c[0], c[1], c[2], c[3]));
+            Check.chip(x, text(c[0], c[1], c[2], c[3]));
             Model model = model(c[0], c[1], c[2], c[3]);
             for (int n = 1; n <= 3; n++) {
                 for (int what = 0; what < 3; what++) {
@@ -129,7 +131,7 @@ public final class CodeTest {
                 }
             }
         }
-        FlashPages x = Check.made(text(6, 67, 2, 0));
+        Check.chip(x, text(6, 67, 2, 0));
         CHECK.due("all three", x.patterns(3, 0) + x.patterns(3, 1) + x.patterns(3, 2), 63 * 62 * 61 / 6);
         CHECK.due("none mended", x.patterns(3, 0), 0);
         Check.chip(x, text(4, 19, 1, 4));

@@ -1,6 +1,8 @@
 import java.lang.reflect.InvocationTargetException;
 import java.lang.reflect.Method;
 import java.lang.reflect.Modifier;
+import java.util.Arrays;
+import java.util.Comparator;
 import java.util.Random;
 
 /** No call throws, whatever its numbers and whatever is on the tape, with a chip and without. */
@@ -11,29 +13,23 @@ public final class ExtremesTest {
 
     public static void main(String[] args) throws IllegalAccessException {
         Random random = new Random(1);
+        Method[] methods = Arrays.stream(FlashPages.class.getDeclaredMethods())
+                .filter(m -> Modifier.isPublic(m.getModifiers()))
+                .sorted(Comparator.comparing(Method::getName)).toArray(Method[]::new);
         for (int i = 0; i < 300; i++) {
             FlashPages x = new FlashPages();
             if (i % 10 > 0) {
                 Check.chip(x, new Chips(1000 + i).text());
             }
             for (int k = 0; k < 512; k++) {
-                call(x, random);
+                call(x, methods[random.nextInt(methods.length)], random);
             }
         }
         spoilTexts(random);
         CHECK.finish();
     }
 
-    private static void call(FlashPages x, Random random) throws IllegalAccessException {
-        Method[] methods = FlashPages.class.getDeclaredMethods();
-        Method method = methods[random.nextInt(methods.length)];
-        if (!Modifier.isPublic(method.getModifiers())) {
-            return;
-        }
-        boolean mayFail = !method.getName().equals("chip") || random.nextInt(20) == 0;
-        if (!mayFail) {
-            return;
-        }
+    private static void call(FlashPages x, Method method, Random random) throws IllegalAccessException {
         Object[] arguments = new Object[method.getParameterCount()];
         for (int i = 0; i < arguments.length; i++) {
             int kind = random.nextInt(4);
@@ -44,7 +40,7 @@ public final class ExtremesTest {
             CHECK.due(method.getName(), 0, 0);
         } catch (InvocationTargetException thrown) {
             thrown.getCause().printStackTrace();
-            CHECK.due(method.getName() + java.util.Arrays.toString(arguments), 1, 0);
+            CHECK.due(method.getName() + Arrays.toString(arguments), 1, 0);
         }
     }
 

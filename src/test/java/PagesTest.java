@@ -169,6 +169,14 @@ public final class PagesTest {
         CHECK.due("why", x.why(0, 50), 0);
         CHECK.due("why at 101", x.why(0, 101), -1);
         CHECK.due("why, not written", x.why(1, 50), -1);
+        // The same bits mean something else to the next chip.
+        x.write(0, 0, 0);
+        x.flip(0, 3);
+        CHECK.due("syndrome by 11", x.syndrome(0, 50, 1), 3);
+        Check.chip(x, SMALL.replace("11", "13") + "page a;");
+        x.write(0, 0, 0);
+        x.flip(0, 3);
+        CHECK.due("syndrome by 13", x.syndrome(0, 50, 1), 5);
     }
 
     /** Every cause is met, and all that is told by it is as the model has it. */
@@ -376,6 +384,16 @@ public final class PagesTest {
         CHECK.due("not lost till then", x.lost(0), -1);
         x.days(1);
         CHECK.due("a day on", x.lost(0), 40);
+        // AHEAD goes to DAY 999 and no farther.
+        x = Check.made(SMALL + "page a;page b;drifts if(bit=1 and cell<2 and age=8+page,0-60,0);");
+        for (int i = 0; i < 24; i++) {
+            x.days(40);
+        }
+        x.days(30);
+        x.write(0, 0, 1);
+        x.write(1, 0, 1);
+        CHECK.due("lost on DAY 999", x.lost(0), 9);
+        CHECK.due("lost a DAY later", x.lost(1), -1);
     }
 
     private static void askOdds() {

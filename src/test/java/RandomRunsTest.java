@@ -1,9 +1,14 @@
+import java.util.ArrayList;
+import java.util.Arrays;
+import java.util.List;
 import java.util.Random;
 
 /** Promises 4 to 39: runs of calls at random, the class's answers against the model's. */
 public final class RandomRunsTest {
-    private static final int RUNS = 400;
-    private static final int CALLS = 450;
+    private static final int RUNS = 1600;
+    private static final int CALLS = 110;
+    /** So many chips come one behind the other on an object. */
+    private static final int CHIPS = 4;
 
     private final Check check = new Check();
     private final int[] refused = new int[6];
@@ -27,11 +32,16 @@ public final class RandomRunsTest {
         random = chips.random;
         String text = chips.text();
         run = "run " + number + " (" + text + "): ";
-        x = new FlashPages();
-        java.util.Arrays.fill(refused, 0);
-        image = new int[0];
         imaged = null;
+        Model former = model;
         model = new Model(chips.told);
+        if (number % CHIPS == 0) {
+            x = new FlashPages();
+            Arrays.fill(refused, 0);
+            image = new int[0];
+        } else {
+            model.seed = former.seed;
+        }
         check.due(run + "chip()", Check.chip(x, text), chips.statements.size());
         check.due(run + "fault(0)", x.fault(0), 0);
         check.due(run + "fault(1)", x.fault(1), -1);
@@ -215,7 +225,7 @@ public final class RandomRunsTest {
         int page = random.nextInt(model.state.leaves.length);
         int[] tape = new int[2 * rows];
         boolean isGood = rows >= 1 && rows <= 16;
-        java.util.List<int[]> met = new java.util.ArrayList<>();
+        List<int[]> met = new ArrayList<>();
         for (int i = 0; i < rows; i++) {
             int at = random.nextInt(30) == 0 ? among(101, 255) : among(0, 100);
             int shifted = Math.max(0, Math.min(at - shift, 100));

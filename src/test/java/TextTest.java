@@ -56,6 +56,9 @@ public final class TextTest {
         fault("field \n", 1, 7);
         fault("Field 3", 1, 0);
         fault("\tfield 3", 1, 0);
+        fault("\0field 3", 1, 0);
+        fault("field\0", 1, 5);
+        fault("field\r3", 1, 5);
         fault("  page a", 1, 2);
         fault("field 2", 4, 6);
         fault("field 7", 4, 6);
@@ -98,6 +101,8 @@ public final class TextTest {
     private static void askStatementFaults() {
         faultBehind(";", 1, 0);
         faultBehind("5;", 1, 0);
+        faultBehind("\0", 1, 0);
+        faultBehind("step 1;\0", 1, 7);
         faultBehind("field 3 poly 11 mends 1 short 0;", 1, 0);
         faultBehind("poly 11;", 1, 0);
         faultBehind("steps 1;", 1, 0);
@@ -200,6 +205,7 @@ public final class TextTest {
         goodBehind("drifts 9999;", 2);
         goodBehind("step 0001;", 2);
         fault("fieldxyz 3", 1, 6);
+        faultBehind("drifts 1;driftsx 1;", 1, 15);
     }
 
     private static void askSideBySide() {
@@ -244,6 +250,18 @@ public final class TextTest {
         faultBehind("tries [[[[[[[not all", 5, 13);
         goodBehind("drifts if([[[[[[1<2]]]]]],1,2);", 2);
         faultBehind("drifts if([[[[[[(1)<2]]]]]],1,2);", 5, 16);
+        String six = "((((((1))))))";
+        for (String text : new String[] {"1+(#)", "1*(#)", "1/2%(#)-(#)", "min(#,1)", "max(1,#)", "if(all,#,1)", "if(1<2,1,#)",
+            "if(#<1,1,1)", "if(1=#,1,1)", "min(#,#)*if(all,#,#)"}) {
+            goodBehind("drifts " + text.replace("#", six) + ";", 2);
+            int place = 7 + text.indexOf("#") + 6;
+            faultBehind("drifts " + text.replaceFirst("#", "(" + six + ")").replace("#", "1") + ";", 5, place);
+        }
+        for (String text : new String[] {"1<(#)", "(#)>1", "all and[1=#]", "all or[1=#]", "not 1<#", "not#<1"}) {
+            goodBehind("tries " + text.replace("#", six) + ";", 2);
+            int place = 6 + text.indexOf("#") + 6;
+            faultBehind("tries " + text.replaceFirst("#", "(" + six + ")") + ";", 5, place);
+        }
         // A sign that may not stand there is no eighth one.
         faultBehind("drifts (((((((1(", 1, 15);
     }
@@ -332,6 +350,36 @@ public final class TextTest {
         CHECK.due("has(4)", x.has(4), 2);
     }
 
+    /** Of a chip before the last one nothing is left either, nor of one with a fault. */
+    private static void askNothingLeft() {
+        String all = "page a;high 90;low 10;mid 20;step 9;noise 90;tries not all;drifts 9";
+        FlashPages x = Check.made(FIELD + all + ";");
+        for (String text : new String[] {FIELD, FIELD + all + "#"}) {
+            Check.chip(x, text);
+        }
+        CHECK.due("a plain chip", Check.chip(x, "field 5 poly 37 mends 3 short 4;page b;"), 2);
+        x.write(0, 0, 345);
+        CHECK.due("high", x.ones(0, 71), 0);
+        CHECK.due("high and low", x.ones(0, 70), x.ones(0, 31));
+        CHECK.due("low", x.ones(0, 30), 27);
+        CHECK.due("no drifts", x.level(0, 0, 1), x.level(0, 0, 0));
+        CHECK.due("mid", x.got(0, 2), 50);
+        CHECK.due("no noise", x.chance(20), 0);
+        for (int cell = 0; cell < 27; cell++) {
+            if (x.level(0, cell, 0) == 30 && x.got(0, 0) >= 0 && x.ones(0, 50) < 22) {
+                x.flip(0, cell);
+            }
+        }
+        CHECK.due("8 tries", x.got(0, 1), 8);
+        CHECK.due("by 3", x.got(0, 2), 71);
+        String long1600 = FIELD + "page a;drifts 1" + "+1-1".repeat(380) + ";";
+        for (int i = 0; i < 5; i++) {
+            CHECK.due("a long chip", Check.chip(x, long1600), 3);
+            x.write(0, 0, 1);
+            CHECK.due("all of it", x.level(0, 0, 7), 77);
+        }
+    }
+
     /** A text with a FAULT changes nothing but goes; one without makes all as at first, but for the seed. */
     private static void askWhatStays() {
         FlashPages x = Check.made(FIELD + "page a;page b;noise 100;drifts 1;");
@@ -372,5 +420,6 @@ public final class TextTest {
         CHECK.due("no drifts", x.level(0, 8, 9), 70);
         CHECK.due("no noise", x.chance(5), 0);
         CHECK.due("no shifts met", x.shifts(0, -1), 19);
+        askNothingLeft();
     }
 }
