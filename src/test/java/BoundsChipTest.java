@@ -291,6 +291,11 @@ public final class BoundsChipTest {
         B.fault("field 3 polys 11", 1, 8);
         B.fault("field 3 poly 11 short 0", 1, 16);
         B.fault("field 3 poly 11 mends 1 mends", 1, 24);
+        for (String cut : new String[] {"field", "field 3", "field 3 poly", "field 3 poly 11", "field 3 poly 11 mends", "field 3 poly 11 mends 1",
+            "field 3 poly 11 mends 1 short"}) {
+            B.fault(cut + ";", 1, cut.length());
+            B.fault(cut + "#;", 1, cut.length());
+        }
         fault("lo 1;", 1, 0);
         fault("lows 1;", 1, 0);
         fault("low high;", 1, 4);
@@ -322,6 +327,19 @@ public final class BoundsChipTest {
         fault("drifts min(1);", 1, 12);
         fault("drifts min(1,2,3);", 1, 14);
         fault("drifts max(1 2);", 1, 13);
+        fault("drifts max(1,2;", 1, 14);
+        fault("drifts max(1,;", 1, 13);
+        fault("drifts max(1;", 1, 12);
+        fault("drifts if(all,2,3;", 1, 17);
+        fault("drifts if(all,2,;", 1, 16);
+        fault("drifts if(all,;", 1, 14);
+        fault("drifts if(all;", 1, 13);
+        fault("drifts if(;", 1, 10);
+        fault("tries all or;", 1, 12);
+        fault("tries all and;", 1, 13);
+        fault("tries not;", 1, 9);
+        fault("tries 1<;", 1, 8);
+        fault("tries [all;", 1, 10);
         fault("drifts max(,2);", 1, 11);
         fault("drifts if(1,2,3);", 1, 11);
         fault("drifts if(all,2);", 1, 15);
@@ -361,6 +379,8 @@ public final class BoundsChipTest {
         B.fault(" ", 1, 1);
         B.fault("\n", 1, 1);
         B.fault(" \n \n ", 1, 5);
+        B.fault(";", 1, 0);
+        B.fault(" ;", 1, 1);
         B.fault(" ".repeat(1600), 1, 1600);
     }
 
@@ -432,6 +452,17 @@ public final class BoundsChipTest {
         fault("drifts min(max(min(max(min(max(min(min(1,2),3),4),5),6),7),8),9);", 5, 38);
         good("drifts if(if(if(if(if(if(if(1<2,1,2)<2,1,2)<2,1,2)<2,1,2)<2,1,2)<2,1,2)<2,1,2);", 2);
         fault("drifts if(if(if(if(if(if(if(if(1<2", 5, 30);
+        // In each place where a SUM or a TEST stands, six more may be open, and not seven.
+        String six = "((((((1))))))";
+        for (String text : new String[] {"min(#,1)", "min(1,#)", "max(#,1)", "max(1,#)", "if(#<1,1,1)", "if(1<#,1,1)", "if(all,#,1)", "if(all,1,#)", "(#)",
+            "(1+#)", "(1*#)", "(1-1/#)"}) {
+            good("drifts " + text.replace("#", six) + ";", 2);
+            fault("drifts " + text.replace("#", "(" + six + ")") + ";", 5, 7 + text.indexOf('#') + 6);
+        }
+        for (String text : new String[] {"[#<1]", "[1>#]", "[all and #=1]", "[all or #=1]", "not #<1", "not 1=#", "all and not 1=#", "all or not 1=#"}) {
+            good("tries " + text.replace("#", six) + ";", 2);
+            fault("tries " + text.replace("#", "(" + six + ")") + ";", 5, 6 + text.indexOf('#') + 6);
+        }
         // What is closed is not open any more.
         good("drifts (1)+(1)+(1)+(1)+(1)+(1)+(1)+(1)+(1)+(((((((1)))))));", 2);
     }
@@ -489,7 +520,15 @@ public final class BoundsChipTest {
         B.due("chip() of 40", Check.chip(x, SMALL + "low 1;".repeat(39)), 40);
         String full = SMALL + "drifts 1" + "+1".repeat((1600 - AT - 10) / 2) + ";";
         full = full + " ".repeat(1600 - full.length());
-        B.due("chip() of 1600 bytes", Check.chip(x, full), 2);
+        for (int i = 0; i < 3; i++) {
+            B.due("chip() of 1600 bytes", Check.chip(x, full), 2);
+        }
+        String long1600 = SMALL + "page a;drifts 0" + "+1-1".repeat((1600 - AT - 20) / 4) + "+7;";
+        for (int i = 0; i < 3; i++) {
+            B.due("chip() of a long SUM", Check.chip(x, long1600), 3);
+            x.write(0, 0, 1);
+            B.due("all of it counts", x.level(0, 0, 1), 77);
+        }
         B.due("the tape went", x.feed(0, 0, 0, 0, 0), 20);
     }
 
@@ -522,6 +561,40 @@ public final class BoundsChipTest {
         B.due("nothing is MET", x.shifts(0, -1), 19);
         B.due("no drifts", x.level(0, 0, 40), 70);
         B.due("no page c", x.write(2, 0, 1), false);
+        askAllAtFirst();
+    }
+
+    /** Of the chips ahead, good and bad ones, nothing is left. */
+    private static void askAllAtFirst() {
+        String rest = "page a;high 90;low 10;mid 20;step 9;noise 90;tries not all;drifts 9";
+        FlashPages x = Check.made(Bounds.TINY + rest + ";");
+        x.write(0, 0, 0);
+        x.flip(0, 3);
+        B.due("syndrome by 11", x.syndrome(0, 50, 1), 3);
+        B.due("weight(3) by 11", x.weight(3), 1);
+        B.due("patterns by 11", x.patterns(2, 1), 3);
+        Check.chip(x, Bounds.TINY + rest + "#");
+        Check.chip(x, Bounds.TINY.replace("11", "13") + "page b;");
+        B.due("one PAGE", x.has(4), 1);
+        x.write(0, 0, 0);
+        B.due("low", x.level(0, 0, 0), 30);
+        B.due("no drifts", x.level(0, 0, 1), 30);
+        x.flip(0, 3);
+        B.due("syndrome by 13", x.syndrome(0, 50, 1), 5);
+        // By 13 the WORDS are none, and 0, 2, 3: pairs without 1 tell a cell.
+        B.due("weight(3) by 13", x.weight(3), 1);
+        B.due("patterns by 13", x.patterns(2, 1), 3);
+        x.flip(0, 1);
+        B.due("1 and 3 tell no cell", x.why(0, 50), 3);
+        B.due("tries, step", x.got(0, 2), 71);
+        B.due("8 READS", x.got(0, 1), 8);
+        B.due("no noise", x.chance(40), 0);
+        Check.chip(x, Bounds.SMALL + "page b;");
+        B.due("weight(3) of 7 cells", x.weight(3), 7);
+        B.due("patterns of 7 cells", x.patterns(2, 1), 21);
+        Check.chip(x, Bounds.TINY);
+        Check.chip(x, Bounds.TINY);
+        B.due("patterns of 4 cells", x.patterns(2, 1), 3);
     }
 
     private static void askFault() {

@@ -244,6 +244,13 @@ public final class BoundsCodeTest {
         // Three of seven cells are farther than two from both WORDS.
         patterns("field 3 poly 11 mends 2 short 0;", 3, 0, 0, 35);
         patterns("field 3 poly 11 mends 3 short 0;", 3, 35, 0, 0);
+        // By t = 2, three cells are MISSED if they are three of the five of a WORD: 18 WORDS of 15 cells, 186 of 31, 1890 of 63.
+        patterns("field 4 poly 19 mends 2 short 0;", 3, 0, 180, 455 - 180);
+        patterns("field 5 poly 37 mends 2 short 0;", 3, 0, 1860, 4495 - 1860);
+        patterns("field 6 poly 67 mends 2 short 0;", 3, 0, 18900, 39711 - 18900);
+        // By t = 1, of all cells two tell a third one always.
+        patterns("field 6 poly 67 mends 1 short 0;", 2, 0, 1953, 0);
+        patterns("field 6 poly 67 mends 1 short 0;", 3, 0, 39711, 0);
         patterns("field 6 poly 67 mends 5 short 0;", 3, 63 * 62 * 61 / 6, 0, 0);
     }
 

@@ -86,10 +86,9 @@ public final class BoundsImageTest {
         x.image();
         // 211, 1055 mod 251 = 51, 255 mod 251 = 4.
         B.due("of 0, 0", x.octet(2), 4);
-        x = Check.made(CHIP);
         for (int sum = 0; sum < 256; sum++) {
             boolean isIt = sum == summed(0, 0, 0, 0)[4];
-            B.due("on() by the sum " + sum, on(x, 0, 0, 0, 0, sum), isIt);
+            B.due("on() by the sum " + sum, on(Check.made(CHIP), 0, 0, 0, 0, sum), isIt);
         }
     }
 
@@ -151,6 +150,14 @@ public final class BoundsImageTest {
         B.due("nothing is KEPT", x.kept(0, 0), -1);
         B.due("undo()", x.undo(), false);
         B.due("the same image", Arrays.equals(Check.octets(x), image), true);
+        // Of an image ahead nothing is left.
+        FlashPages y = Check.made(CHIP);
+        y.write(1, 0, 7);
+        B.due("on() with page b", on(y, Check.octets(y)), true);
+        B.due("page b is written", y.page(1, 0), 1);
+        B.due("on() without it", on(y, image), true);
+        B.due("it is not written", y.page(1, 0), 0);
+        B.due("has(5)", y.has(5), 1);
     }
 
     private static void askOnMost() {

@@ -111,12 +111,43 @@ public final class BoundsPagesTest {
         B.due("c 1 of three", x.locator(0, 50, 1), 7);
         B.due("c 2 of three, a + a2 + a3", x.locator(0, 50, 2), 2 ^ 4 ^ 3);
         B.due("c 3 of three, a3", x.locator(0, 50, 3), 3);
+        askAllRecurrences("field 4 poly 19 mends 3 short 0;", 4, 19, 3);
+        askAllRecurrences("field 5 poly 37 mends 5 short 0;", 5, 37, 5);
         // S 1 and S 2 of a code by t = 1 are x and its square: L is 1 at the most.
         for (int data = 0; data < 2; data++) {
             for (int cell = 1; cell < 4; cell++) {
                 B.due("L by t 1", written(TINY, data, 0, cell).locator(0, 50, 0), 1);
             }
         }
+    }
+
+    /** By elimination, which the model does, with up to t + 4 cells flipped. */
+    private static void askAllRecurrences(String text, int m, int poly, int t) {
+        Model.Told told = new Model.Told();
+        told.m = m;
+        told.poly = poly;
+        told.t = t;
+        told.names.add("a");
+        Model model = new Model(told);
+        java.util.Random random = new java.util.Random(t);
+        boolean[] causes = new boolean[4];
+        for (int i = 0; i < 200; i++) {
+            FlashPages x = Check.made(text + "page a;");
+            x.write(0, 0, 1);
+            model.write(0, 0, 1);
+            for (int flips = i % (t + 5); flips > 0; flips--) {
+                int cell = random.nextInt(model.n);
+                x.flip(0, cell);
+                model.flip(0, cell);
+            }
+            causes[x.why(0, 50) & 3] = true;
+            B.due("why", x.why(0, 50), model.why(0, 50));
+            for (int k = 0; k <= t + 1; k++) {
+                B.due("locator(0, 50, " + k + ")", x.locator(0, 50, k), model.locator(0, 50, k));
+                B.due("wrong(0, 50, " + (k - 1) + ")", x.wrong(0, 50, k - 1), model.wrong(0, 50, k - 1));
+            }
+        }
+        B.due("causes 0, 1, 2 are met", causes[0] && causes[1] && causes[2], true);
     }
 
     private static void askRoots() {
@@ -202,6 +233,13 @@ public final class BoundsPagesTest {
         B.due("none MENDED", x.got(0, 0), 0);
         B.due("DATA 1 is GOT", x.got(0, 5), 1);
         B.due("not TRUE", x.got(0, 3), 0);
+        // The cells 5 and 6 tell cell 1: 0, 3, 5, 6 are GOT.
+        x = written(SMALL, 1, 5, 6);
+        B.due("one MENDED wrongly", x.got(0, 0), 1);
+        B.due("DATA", x.got(0, 5), 13);
+        B.due("refreshed", x.refresh(0), 1);
+        B.due("a zero now", x.level(0, 1, 0), 30);
+        B.due("a one now", x.level(0, 5, 0), 70);
     }
 
     private static void askWritten() {
@@ -249,8 +287,16 @@ public final class BoundsPagesTest {
         B.due("why", x.why(0, 50), 3);
         B.due("READS", x.got(0, 1), 1);
         B.due("LOST by", x.got(0, 4), 3);
-        B.due("one more: READS", tooMany("tries tried<2;").got(0, 1), 2);
-        B.due("one fewer: READS", tooFew("tries tried<2;").got(0, 1), 2);
+        // Of 7 cells of 15, 0, 1, 4 being wanted: 0, 2, 3 tell 13, and there are four ones; 0, 1, 2 tell 10, there are two.
+        String seven = "field 4 poly 19 mends 1 short 8;page a;step 7;tries tried<2;";
+        x = written(seven, 1, 0, 2, 3);
+        B.due("one more", x.ones(0, 50) - x.page(0, 2), 1);
+        B.due("READS", x.got(0, 1), 2);
+        B.due("by", x.got(0, 2), 57);
+        x = written(seven, 1, 0, 1, 2);
+        B.due("one fewer", x.ones(0, 50) - x.page(0, 2), -1);
+        B.due("READS", x.got(0, 1), 2);
+        B.due("by", x.got(0, 2), 43);
     }
 
     private static void askTriesHold() {
@@ -354,6 +400,16 @@ public final class BoundsPagesTest {
     }
 
     private static void askDayHeld() {
+        B.of(Bounds.TERMS_II, "A DAY: the level of each cell of each PAGE that is written is more by the SUM of drifts");
+        FlashPages full = Check.made("field 6 poly 67 mends 1 short 0;page a;page b;page c;page d;page e;page f;noise 100;drifts 1;");
+        for (int page = 0; page < 6; page++) {
+            B.due("write(" + page + ")", full.write(page, page, 1), true);
+        }
+        B.due("days(1) of six PAGES of 63 cells", full.days(1), 6);
+        for (int page = 0; page < 6; page++) {
+            B.due("cell 62 of page " + page, full.level(page, 62, 0), 31);
+        }
+        B.due("chance(1)", full.chance(1), 6);
         B.of(Bounds.TERMS_II, "the DAY is one more (999 at most)");
         FlashPages x = onDay(998, SMALL + "page a;");
         B.due("DAY", x.has(6), 998);
@@ -642,6 +698,16 @@ public final class BoundsPagesTest {
         // First: it is back on the next day.
         FlashPages x = written(SMALL + "page a;drifts if(cell>1,0,if(age=3,0-60,if(age=4,60,0)));", 1);
         B.due("the first", x.lost(0), 4);
+        // By the PAGE and the DAY.
+        x = Check.made(SMALL + "page a;page b;drifts if(cell<2 and day=page*7,0-60,0);");
+        x.days(3);
+        x.write(0, 0, 1);
+        x.write(1, 0, 1);
+        B.due("page a", x.lost(0), -1);
+        B.due("page b", x.lost(1), 5);
+        x.days(4);
+        B.due("odds of page a", x.odds(0), 700);
+        B.due("odds of page b", x.odds(1), 0);
         // GOT but not TRUE is lost, LOST is too.
         B.due("not TRUE", written(SMALL, 1, 5, 6).lost(0), 0);
         B.due("LOST", tooMany("tries not all;").lost(0), 0);

@@ -117,6 +117,12 @@ public final class BoundsShiftsTest {
         meet(x, 100, 7);
         B.due("nothing tells 1 .. 9", x.tells(0, 0), 0);
         B.due("all are left", x.tells(0, 1), 9);
+        x = Check.made("field 6 poly 67 mends 1 short 0;page a;");
+        x.write(0, (1 << 27) - 1, (1 << 30) - 1);
+        B.due("of 63 ones", x.tells(0, 0), 70);
+        B.due("left", x.tells(0, 1), 10);
+        meet(x, 70, 63);
+        B.due("63 ones are met", x.shifts(0, -1), 10);
         x = written(CHIP + "low 0;", 0);
         B.due("0", x.tells(0, 0), 0);
         B.due("left", x.tells(0, 1), 10);

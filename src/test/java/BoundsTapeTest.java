@@ -131,6 +131,37 @@ public final class BoundsTapeTest {
         B.due("chip() of what was cut and fed again", x.chip(), 2);
         B.due("letter(0, 0)", x.letter(0, 0), 1);
         B.due("letter(0, 1)", x.letter(0, 1), 0);
+        // What was cut away is not there any more, for no call that takes the tape.
+        cut("page a", "b", 6);
+        cut("page abcdef", "g", 11);
+        cut("page abcde", "f;", 10);
+        cut("low 1", "2;", 5);
+        cut("drifts 1234", "5", 11);
+        cut("drifts 1+d", "ay;", 9);
+        cut("drifts 1+", "day;", 9);
+        cut("low 1", ";", 5);
+        cut("low 1 ", " ;", 6);
+        Check.feed(x, 50, 3, 255, 255);
+        x.end(2);
+        B.due("chip() of two bytes", x.chip(), -1);
+        B.due("its place", x.fault(1), 0);
+        FlashPages y = Check.made(Bounds.SMALL + "page a;");
+        Check.feed(y, 50, 3, 255, 255);
+        y.end(2);
+        B.due("meet() of two bytes", y.meet(), 1);
+        Check.feed(y, 0, 0, 0, 20, 255, 255);
+        y.end(4);
+        B.due("on() of four bytes", y.on(), true);
+    }
+
+    /** A text of which the end was cut away: where its fault 1 is, behind the field. */
+    private static void cut(String text, String end, int place) {
+        FlashPages x = new FlashPages();
+        Check.feed(x, Bounds.SMALL + text + end);
+        x.end(Bounds.SMALL.length() + text.length());
+        B.due("chip() of " + text, x.chip(), -1);
+        B.due("its fault", x.fault(0), 1);
+        B.due("its place", x.fault(1), Bounds.SMALL.length() + place);
     }
 
     private static void askStatusKinds() {

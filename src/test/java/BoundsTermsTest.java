@@ -14,6 +14,7 @@ public final class BoundsTermsTest {
         askFacts();
         askDriftWords();
         askTriesWords();
+        askEitherOrder();
         B.finish();
     }
 
@@ -159,6 +160,20 @@ public final class BoundsTermsTest {
         notSo("2=3");
         so("0-1<0");
         so("1+1=4/2");
+        for (String test : new String[] {"1<2", "2>1", "2=2"}) {
+            so(test + " and all");
+            so("all and " + test);
+            so("not all or " + test);
+            notSo("not " + test);
+            so("not not " + test);
+            so("if(" + test + ",5,6)=5");
+        }
+        for (String test : new String[] {"2<2", "2>2", "2=1"}) {
+            notSo(test + " and all");
+            notSo(test + " or not all");
+            so("not " + test);
+            so("if(" + test + ",5,6)=6");
+        }
     }
 
     private static void askFacts() {
@@ -211,6 +226,18 @@ public final class BoundsTermsTest {
         x.flip(0, 2);
         B.due("refused", x.why(0, 50) > 0, true);
         B.due("fewer than wanted", x.got(0, 1), 4);
+    }
+
+    private static void askEitherOrder() {
+        B.of(Bounds.TERMS_I, "drifts SUM, tries TEST (one each)");
+        for (String both : new String[] {"drifts 5-2;tries tried<3;", "tries tried<3;drifts 5-2;"}) {
+            FlashPages x = Check.made(Bounds.TINY + "page a;step 1;" + both);
+            x.write(0, 0, 0);
+            B.due("drifts of " + both, x.level(0, 0, 2), 36);
+            x.flip(0, 0);
+            x.flip(0, 2);
+            B.due("tries of " + both, x.got(0, 1), 3);
+        }
     }
 
     private static int reads(String test) {
