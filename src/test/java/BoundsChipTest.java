@@ -100,6 +100,14 @@ public final class BoundsChipTest {
         B.range("field 3 poly 11 mends # short 0;", 1, 3);
         FlashPages x = Check.made("field 3 poly 11 mends 3 short 0;");
         B.due("bits of DATA", x.has(3), 1);
+        // Behind chips of a greater field, a to the 8, 9, 10 are still a, a2, a3.
+        Check.chip(x, "field 6 poly 67 mends 5 short 0;");
+        Check.chip(x, "field 6 poly 91 mends 5 short 0;");
+        for (int mends = 4; mends <= 5; mends++) {
+            B.due("chip() by " + mends, Check.chip(x, "field 3 poly 11 mends " + mends + " short 0;"), -1);
+            B.due("its fault", x.fault(0), 4);
+            B.due("its place", x.fault(1), 22);
+        }
     }
 
     private static void askShort() {

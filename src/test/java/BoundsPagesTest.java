@@ -130,6 +130,19 @@ public final class BoundsPagesTest {
         told.names.add("a");
         Model model = new Model(told);
         java.util.Random random = new java.util.Random(t);
+        // Reads one behind the other: what one was has no part in the next.
+        FlashPages same = Check.made(text + "page a;");
+        same.write(0, 0, 1);
+        model.write(0, 0, 1);
+        for (int i = 0; i < 40; i++) {
+            int cell = random.nextInt(model.n);
+            same.flip(0, cell);
+            model.flip(0, cell);
+            B.due("the next why", same.why(0, 50), model.why(0, 50));
+            for (int k = 0; k <= t; k++) {
+                B.due("the next locator(0, 50, " + k + ")", same.locator(0, 50, k), model.locator(0, 50, k));
+            }
+        }
         boolean[] causes = new boolean[4];
         for (int i = 0; i < 200; i++) {
             FlashPages x = Check.made(text + "page a;");
