@@ -734,9 +734,10 @@ public final class FlashPages {
                 }
             }
             divisor = product;
-            checks = 0;
-            for (long rest = product >>> 1; rest != 0; rest >>>= 1) {
-                checks++;
+            for (int k = 0; k < MOST_CELLS; k++) {
+                if (bitOf(product, k) == 1) {
+                    checks = k;
+                }
             }
         }
 
@@ -757,8 +758,8 @@ public final class FlashPages {
         int valueAt(long polynomial, int k) {
             int sum = 0;
             int exponent = 0;
-            for (long rest = polynomial; rest != 0; rest >>>= 1) {
-                if ((rest & 1L) == 1L) {
+            for (int i = 0; i < MOST_CELLS && polynomial >>> i != 0; i++) {
+                if (bitOf(polynomial, i) == 1) {
                     sum ^= powers[exponent];
                 }
                 exponent += k;
@@ -855,7 +856,7 @@ public final class FlashPages {
         }
 
         private int thirdOf(int cell) {
-            return mends > 1 ? powers[3 * cell % size] : 0;
+            return mends > 1 && size > 0 ? powers[3 * cell % size] : 0;
         }
 
         private void mark(int first, int third) {
@@ -1064,7 +1065,7 @@ public final class FlashPages {
             listWords(TERM_WORDS, count, ownWords);
         }
 
-        /** How many words the list has then. */
+        /** How many words the list has then; letters stand from the left on, so that what is behind a word is 0. */
         private static int listWords(String words, int from, int[] list) {
             int count = from;
             int name = 0;
@@ -1075,7 +1076,7 @@ public final class FlashPages {
                     name = name << LETTER_BITS | sign - 'a' + 1;
                     letters++;
                 } else if (count < list.length) {
-                    list[count] = packed(name, letters);
+                    list[count] = name << LETTER_BITS * (MOST_LETTERS - letters);
                     count++;
                     name = 0;
                     letters = 0;
@@ -1135,19 +1136,23 @@ public final class FlashPages {
         }
 
         private void lookAtWord() {
-            int at = start;
-            int name = 0;
-            while (at < size && isLetter(text[at]) && at - start < MOST_LETTERS) {
-                name = name << LETTER_BITS | text[at] - 'a' + 1;
-                at++;
+            int count = 0;
+            for (int at = start; at < size && count <= MOST_LETTERS; at++) {
+                int letter = text[at] - 'a' + 1;
+                if (letter < 1 || letter > 26) {
+                    break;
+                }
+                value = value << LETTER_BITS | letter;
+                count++;
+            }
+            after = start + count;
+            if (count > MOST_LETTERS) {
+                kind = KIND_BAD;
+                badPlace = start + MOST_LETTERS;
+                return;
             }
             kind = KIND_WORD;
-            after = at;
-            if (at < size && isLetter(text[at])) {
-                kind = KIND_BAD;
-                badPlace = at;
-            }
-            value = packed(name, at - start);
+            value <<= LETTER_BITS * (MOST_LETTERS - count);
             for (int i = 0; i < OWN_COUNT; i++) {
                 if (ownWords[i] == value) {
                     own = i;
@@ -1156,16 +1161,20 @@ public final class FlashPages {
         }
 
         private void lookAtNumber() {
-            int at = start;
-            while (at < size && isDigit(text[at]) && at - start < MOST_DIGITS) {
-                value = value * 10 + text[at] - '0';
-                at++;
+            int count = 0;
+            for (int at = start; at < size && count <= MOST_DIGITS; at++) {
+                int digit = text[at] - '0';
+                if (digit < 0 || digit > 9) {
+                    break;
+                }
+                value = value * 10 + digit;
+                count++;
             }
+            after = start + count;
             kind = KIND_NUMBER;
-            after = at;
-            if (at < size && isDigit(text[at])) {
+            if (count > MOST_DIGITS) {
                 kind = KIND_BAD;
-                badPlace = at;
+                badPlace = start + MOST_DIGITS;
             }
         }
 
@@ -1175,11 +1184,6 @@ public final class FlashPages {
 
         private static boolean isDigit(int sign) {
             return sign >= '0' && sign <= '9';
-        }
-
-        /** A name's letters from the left on, so that what is behind it is 0. */
-        private static int packed(int name, int letters) {
-            return letters < MOST_LETTERS ? name << LETTER_BITS * (MOST_LETTERS - letters) : name;
         }
 
         private boolean failBy(int number, int at) {
@@ -1345,10 +1349,14 @@ public final class FlashPages {
         // ---- sums and tests; open is how many ( [ not are open, and keeps the recursion low
 
         private boolean readOpening(int sign, int open) {
-            if (kind == sign && open >= MOST_OPEN) {
+            if (kind != sign) {
+                return failHere();
+            }
+            if (open >= MOST_OPEN) {
                 return failBy(5, start);
             }
-            return readSign(sign);
+            look();
+            return true;
         }
 
         private boolean readSum(int open) {
