@@ -1,11 +1,15 @@
 import com.sun.source.tree.BinaryTree;
 import com.sun.source.tree.CompilationUnitTree;
 import com.sun.source.tree.CompoundAssignmentTree;
+import com.sun.source.tree.DoWhileLoopTree;
 import com.sun.source.tree.ExpressionTree;
+import com.sun.source.tree.ForLoopTree;
 import com.sun.source.tree.MethodInvocationTree;
 import com.sun.source.tree.MethodTree;
 import com.sun.source.tree.NewClassTree;
+import com.sun.source.tree.ParenthesizedTree;
 import com.sun.source.tree.Tree;
+import com.sun.source.tree.WhileLoopTree;
 import com.sun.source.util.JavacTask;
 import com.sun.source.util.TreePath;
 import com.sun.source.util.TreePathScanner;
@@ -25,20 +29,23 @@ import javax.tools.JavaCompiler;
 import javax.tools.StandardJavaFileManager;
 import javax.tools.ToolProvider;
 
-/** Those rules of LANGUAGE.md that need to know what calls what: the library, recursion, how deep calls go, divisors. */
+/** Those rules of LANGUAGE.md that need to know what calls what: the library, recursion, how deep calls go, divisors, loops. */
 public final class CallsTest {
     private static final Check CHECK = new Check();
     private static final int DEEPEST = 8;
+    private static final Set<Tree.Kind> BOUNDS = Set.of(Tree.Kind.LESS_THAN, Tree.Kind.LESS_THAN_EQUAL, Tree.Kind.GREATER_THAN,
+            Tree.Kind.GREATER_THAN_EQUAL);
     private static final Set<String> LIBRARY = Set.of("String.length", "String.charAt", "Math.max", "Math.min", "Math.abs", "Math.floorDiv",
             "Math.floorMod", "Long.bitCount", "Arrays.fill", "System.arraycopy", "Object.<init>");
 
     public static void main(String[] args) throws IOException {
         Reader reader = read(Path.of("src/main/java/FlashPages.java"));
         CHECK.due("methods, " + reader.calls.size(), reader.calls.size() > 100, true);
+        CHECK.due("loops, " + reader.loops, reader.loops > 50, true);
         askRecursion(reader);
         Map<String, Integer> depths = new HashMap<>();
         for (String name : reader.calls.keySet()) {
-            int depth = depth(name, reader, depths, new TreeSet<>());
+            int depth = depth(name, reader, depths);
             CHECK.due(name + " goes " + depth + " deep, eight at most", depth <= DEEPEST, true);
         }
         CHECK.finish();
@@ -79,7 +86,7 @@ public final class CallsTest {
     }
 
     /** How many calls stand open at the most, all methods that call one another counting as one. */
-    private static int depth(String name, Reader reader, Map<String, Integer> known, Set<String> open) {
+    private static int depth(String name, Reader reader, Map<String, Integer> known) {
         Integer old = known.get(name);
         if (old != null) {
             return old;
@@ -93,7 +100,7 @@ public final class CallsTest {
         int deepest = 0;
         for (String member : ring) {
             for (String called : reader.calls.getOrDefault(member, Set.of())) {
-                deepest = ring.contains(called) ? deepest : Math.max(deepest, depth(called, reader, known, open));
+                deepest = ring.contains(called) ? deepest : Math.max(deepest, depth(called, reader, known));
             }
         }
         known.put(name, deepest + 1);
@@ -106,6 +113,7 @@ public final class CallsTest {
         /** Without those that hand on a greater depth. */
         final Map<String, Set<String>> level = new TreeMap<>();
         final Map<String, String> parameters = new TreeMap<>();
+        int loops;
         private final Trees trees;
 
         Reader(Trees trees) {
@@ -164,6 +172,40 @@ public final class CallsTest {
             boolean divides = tree.getKind() == Tree.Kind.DIVIDE_ASSIGNMENT || tree.getKind() == Tree.Kind.REMAINDER_ASSIGNMENT;
             CHECK.due(in + ": " + tree + " divides", divides, false);
             return super.visitCompoundAssignment(tree, in);
+        }
+
+        @Override
+        public Void visitForLoop(ForLoopTree loop, String in) {
+            askLoop(loop.getCondition(), in);
+            return super.visitForLoop(loop, in);
+        }
+
+        @Override
+        public Void visitWhileLoop(WhileLoopTree loop, String in) {
+            askLoop(loop.getCondition(), in);
+            return super.visitWhileLoop(loop, in);
+        }
+
+        @Override
+        public Void visitDoWhileLoop(DoWhileLoopTree loop, String in) {
+            askLoop(loop.getCondition(), in);
+            return super.visitDoWhileLoop(loop, in);
+        }
+
+        private void askLoop(ExpressionTree condition, String in) {
+            loops++;
+            CHECK.due(in + ": a loop while " + condition + " has a counter against a bound", isBounded(condition), true);
+        }
+
+        /** A bound holds whatever else is asked beside it by &&. */
+        private static boolean isBounded(Tree condition) {
+            if (condition instanceof ParenthesizedTree) {
+                return isBounded(((ParenthesizedTree) condition).getExpression());
+            }
+            if (condition != null && condition.getKind() == Tree.Kind.CONDITIONAL_AND) {
+                return isBounded(((BinaryTree) condition).getLeftOperand()) || isBounded(((BinaryTree) condition).getRightOperand());
+            }
+            return condition != null && BOUNDS.contains(condition.getKind());
         }
 
         /** A constant that is not 0, or what the same method tests. */
